@@ -1,3 +1,5 @@
+import java.util.Arrays;
+
 /** Counts and prints the answers that are not as due. */
 final class Check {
     static final String ILLEGAL = "IllegalArgumentException";
@@ -6,6 +8,10 @@ final class Check {
 
     interface Call {
         long answer();
+    }
+
+    interface CallOf {
+        long answer(int[] arguments);
     }
 
     private int wrong = 0;
@@ -23,6 +29,13 @@ final class Check {
 
     void dueThrow(String name, Call call, String want) {
         dueText(name, outcome(call), want);
+    }
+
+    /** Each row holds the arguments of one call that must throw IllegalArgumentException. */
+    void dueIllegal(String name, int[][] rows, CallOf call) {
+        for (int[] row : rows) {
+            dueThrow(name + Arrays.toString(row), () -> call.answer(row), ILLEGAL);
+        }
     }
 
     /** What a call answers, or the name of what it throws. */
